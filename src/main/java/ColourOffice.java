@@ -9,6 +9,8 @@ import java.util.NoSuchElementException;
 public final class ColourOffice {
 
     private static final int NONE = -1;
+    // Greater than every distance and every error.
+    private static final int BEYOND_ALL = 1000000000;
 
     private static final int MAX_COLOURS = 10;
     private static final int MAX_REPORTS = 6;
@@ -854,7 +856,7 @@ public final class ColourOffice {
 
         int nearestTo(int[] target) {
             int best = NONE;
-            int least = Integer.MAX_VALUE;
+            int least = BEYOND_ALL;
             for (int position = 0; position < colours.count; position++) {
                 int gap = between(target, colours.rows[position]);
                 if (gap < least) {
@@ -866,7 +868,7 @@ public final class ColourOffice {
         }
 
         int closestOfPairs() {
-            int least = Integer.MAX_VALUE;
+            int least = BEYOND_ALL;
             for (int first = 0; first < colours.count; first++) {
                 for (int second = first + 1; second < colours.count; second++) {
                     least = Math.min(least, between(colours.rows[first], colours.rows[second]));
@@ -983,7 +985,7 @@ public final class ColourOffice {
             int count = state.colours.count;
             listAll(count);
             sort(rows, order, 0, count, RED);
-            int least = Integer.MAX_VALUE;
+            int least = BEYOND_ALL;
             for (int first = 0; first < count; first++) {
                 int[] row = rows[order[first]];
                 for (int second = first + 1; second < count; second++) {
@@ -1186,7 +1188,7 @@ public final class ColourOffice {
         }
 
         private int distanceToPalette(int colour, int palette) {
-            int least = Integer.MAX_VALUE;
+            int least = BEYOND_ALL;
             for (int member = 0; member < count; member++) {
                 if ((palette >> member & 1) != 0) {
                     least = Math.min(least, distances[colour][member]);
@@ -1197,7 +1199,7 @@ public final class ColourOffice {
 
         int bestOfSize(int size) {
             int best = 0;
-            int least = Integer.MAX_VALUE;
+            int least = BEYOND_ALL;
             for (int palette = 1; palette < 1 << count; palette++) {
                 if (Integer.bitCount(palette) == size) {
                     int error = errorOf(palette);
@@ -1230,7 +1232,7 @@ public final class ColourOffice {
         }
 
         int errorBySearch(int size) {
-            return searchFrom(this, 0, size, 0, Integer.MAX_VALUE);
+            return searchFrom(this, 0, size, 0, BEYOND_ALL);
         }
 
         private static int searchFrom(Palettes palettes, int colour, int left, int taken, int least) {
