@@ -252,11 +252,10 @@ public final class ColourOffice {
     }
 
     public int nearestFor(int report) throws NoSuchElementException {
-        int reportPosition = openAt(report);
-        if (state.colours.count == 0) {
+        int position = state.nearestTo(state.reports.rows[openAt(report)]);
+        if (position < 0) {
             throw new NoSuchElementException("no found colours");
         }
-        int position = state.nearestTo(state.reports.rows[reportPosition]);
         return state.colours.rows[position][ID];
     }
 
@@ -272,11 +271,11 @@ public final class ColourOffice {
         if (!isColour(red, green, blue)) {
             throw new IllegalArgumentException("a part is not between 0 and 99");
         }
-        if (state.colours.count == 0) {
-            throw new NoSuchElementException("no found colours");
-        }
         want(red, green, blue);
         int position = finder.nearestByTree(state, wanted);
+        if (position < 0) {
+            throw new NoSuchElementException("no found colours");
+        }
         return state.colours.rows[position][ID];
     }
 
@@ -285,11 +284,11 @@ public final class ColourOffice {
         if (!isColour(red, green, blue)) {
             throw new IllegalArgumentException("a part is not between 0 and 99");
         }
-        if (state.colours.count == 0) {
-            throw new NoSuchElementException("no found colours");
-        }
         want(red, green, blue);
         int position = state.nearestTo(wanted);
+        if (position < 0) {
+            throw new NoSuchElementException("no found colours");
+        }
         return state.colours.rows[position][ID];
     }
 
