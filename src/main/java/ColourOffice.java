@@ -1038,7 +1038,7 @@ public final class ColourOffice {
                     int distance = state.between(row, state.colours.rows[colour]);
                     boolean fitting = distance <= row[TOLERANCE];
                     distances[report][colour] = fitting ? distance : NONE;
-                    anyFits |= fitting;
+                    anyFits = anyFits || fitting;
                 }
                 rewards[report] = row[REWARD];
                 possible += anyFits ? rewards[report] : 0;
@@ -1309,13 +1309,13 @@ public final class ColourOffice {
         /** Returns the error position, or NONE if the buffer has the form of a script. */
         int parse() {
             int start = 0;
-            for (count = 0; count < MAX_COMMANDS; count++) {
-                int error = parseCommand(start);
+            for (int command = 0; command < MAX_COMMANDS; command++) {
+                int error = parseCommand(command, start);
                 if (error >= 0) {
                     return error;
                 }
                 if (cursor >= length) {
-                    count++;
+                    count = command + 1;
                     return NONE;
                 }
                 start = cursor + 1;
@@ -1324,11 +1324,11 @@ public final class ColourOffice {
         }
 
         // A character can continue the script if it can continue any of the commands, so the furthest failure counts.
-        private int parseCommand(int start) {
+        private int parseCommand(int command, int start) {
             int furthest = start;
             for (int kind = 0; kind < COMMANDS.length; kind++) {
-                if (matches(COMMANDS[kind].form, start)) {
-                    kinds[count] = kind;
+                if (matches(COMMANDS[kind].form, start, arguments[command])) {
+                    kinds[command] = kind;
                     return NONE;
                 }
                 furthest = Math.max(furthest, cursor);
@@ -1337,17 +1337,17 @@ public final class ColourOffice {
         }
 
         // Leaves the cursor behind the command, or at the first character that cannot continue it.
-        private boolean matches(String form, int start) {
+        private boolean matches(String form, int start, int[] values) {
             cursor = start;
             int argument = 0;
             for (int index = 0; index < form.length(); index++) {
                 char sign = form.charAt(index);
                 if (sign == '#' || sign == '@') {
                     int value = sign == '#' ? readNumber() : readMetric();
-                    if (value < 0 || argument >= MAX_ARGUMENTS) {
+                    if (value < 0 || argument >= values.length) {
                         return false;
                     }
-                    arguments[count][argument] = value;
+                    values[argument] = value;
                     argument++;
                 } else if (!readSign(sign)) {
                     return false;
