@@ -221,6 +221,11 @@ public final class EdgeTest {
             same("9: it is the last one", full.colourAt(left - 1), 19 - left);
         }
         same("9: it costs nothing", full.coins() + full.returnedTotal(), 0);
+        ColourOffice ends = Offices.officeOf(c(1, 1, 1, 1), c(2, 2, 2, 2), c(3, 3, 3, 3), c(5, 5, 5, 5));
+        ends.mix(0, 3);
+        same("9: those between stay", Whole.now(ends), "0m 0 0 0 c1:2/2/2f2d0 c2:3/3/3f3d0 c4:3/3/3f1d0");
+        ends.mix(4, 1);
+        same("9: the last and the first", Whole.now(ends), "0m 0 0 0 c2:3/3/3f3d0 c5:2/2/2f1d0");
         ColourOffice grey = Offices.officeOf(c(0, 1, 99, 3), c(99, 99, 2, 3), c(2, 99, 0, 3));
         grey.mix(0, 1);
         same("9: 49, 50 and 50 are not grey", grey.greyShare(), 0.0f);
@@ -478,6 +483,13 @@ public final class EdgeTest {
         apart.addColour(49, 0, 0, 1);
         same("30: far in the order of reds", apart.closestDistance(), 9);
         same("31: far in the order of reds", apart.closestDistanceBySorting(), 9);
+        // The closest two have neighbouring reds, and far ones stand between them in the order of greens or blues.
+        ColourOffice reds = Offices.officeOf(c(10, 0, 99, 1), c(90, 1, 98, 1), c(50, 2, 97, 1), c(11, 3, 96, 1));
+        same("30: near in the order of reds", reds.closestDistance(), 7);
+        same("31: near in the order of reds", reds.closestDistanceBySorting(), 7);
+        reds.setMetric('s');
+        same("30: near in the order of reds", reds.closestDistance(), 19);
+        same("31: near in the order of reds", reds.closestDistanceBySorting(), 19);
     }
 
     // ---- promises 32 to 38 ----

@@ -107,6 +107,8 @@ public final class ScriptTest {
         formless("", 0);
         oneToFourDigits();
         everyPrefixOfACommand();
+        endsInAFullBuffer();
+        whatIsLeftOfAnEarlierScript();
         everyOtherSign();
         whatFollowsACommand();
         repetitions();
@@ -157,6 +159,43 @@ public final class ScriptTest {
             formed(command, 1);
             formed("day;" + command, 2);
             formed("settle;drop 0;" + command, 3);
+        }
+    }
+
+    // The same with the end of the script at the end of the buffer.
+    private static void endsInAFullBuffer() {
+        for (String form : FORMS) {
+            String command = form.replace('N', '7');
+            for (int length = 1; length <= command.length(); length++) {
+                String script = filled(60 - length) + command.substring(0, length);
+                if (length < command.length() && !command.substring(0, length).equals("day")) {
+                    formless(script, 60);
+                } else {
+                    formed(script, script.split(";").length);
+                }
+            }
+        }
+    }
+
+    /** Commands with a separator behind each, of so many characters in all. */
+    private static String filled(int length) {
+        String rest = new String[] {"", "day 1;day 22;", "day 1;", "day 22;"}[length % 4];
+        return "day;".repeat((length - rest.length()) / 4) + rest;
+    }
+
+    // What stands in the buffer behind the end is no part of the script.
+    private static void whatIsLeftOfAnEarlierScript() {
+        for (String form : FORMS) {
+            String command = form.replace('N', '7');
+            for (int length = 0; length < command.length(); length++) {
+                ColourOffice office = new ColourOffice();
+                String prefix = command.substring(0, length);
+                Whole.answer(() -> Offices.run(office, command));
+                if (!prefix.equals("day")) {
+                    refused("'" + prefix + "' behind a whole one", ARGUMENT, () -> Offices.run(office, prefix));
+                    same("'" + prefix + "' behind a whole one", office.errorPosition(), length);
+                }
+            }
         }
     }
 

@@ -668,6 +668,7 @@ public final class TermsTest {
         whatIsNoChange();
         theLatestEight();
         ringOfChanges();
+        changesBehindScripts();
         whatUndoLeaves();
         whatTheSnapshotLeaves();
         undoCoversAllElse();
@@ -766,6 +767,21 @@ public final class TermsTest {
                 same("turn " + turn + ": the day", office.day(), day);
             }
         }
+    }
+
+    // A call behind a script is a change of its own again, whether the script has taken effect or not.
+    private static void changesBehindScripts() {
+        ColourOffice office = new ColourOffice();
+        Offices.run(office, "day;day");
+        office.passDays(5);
+        same("behind a script", office.undo() * 100 + office.day(), 102);
+        refused("a failed command", STATE, () -> Offices.run(office, "day;drop 0"));
+        office.passDays(5);
+        same("behind a failed script", office.undo() * 100 + office.day(), 102);
+        refused("without the form", ARGUMENT, () -> Offices.run(office, "day;"));
+        office.passDays(5);
+        same("behind a script without the form", office.undo() * 100 + office.day(), 102);
+        same("the script", office.undo() * 100 + office.day(), 0);
     }
 
     // "except the script buffer, the error position, the failed command and its kind of failure, the output text .."
