@@ -694,7 +694,8 @@ public final class EdgeTest {
         same("48: an id of two digits", Offices.text(office), "10?1/2/3~4+5");
     }
 
-    private static void describes(String promise, Function<Integer, Integer> render, ColourOffice office, String... due) {
+    private static void describes(String promise, Function<Integer, Integer> render, ColourOffice office,
+            String... due) {
         for (int id = 0; id < due.length; id++) {
             same(promise + ": the length of " + due[id], render.apply(id), due[id].length());
             same(promise + ": the text", Offices.text(office), due[id]);

@@ -32,27 +32,8 @@ public final class PromiseTest {
         CHECKS.refused(what, kind, call);
     }
 
-    private static ColourOffice officeOf(int[]... colours) {
-        ColourOffice office = new ColourOffice();
-        for (int[] c : colours) {
-            office.addColour(c[0], c[1], c[2], c[3]);
-        }
-        return office;
-    }
-
     private static int[] c(int red, int green, int blue, int fastness) {
-        return new int[] {red, green, blue, fastness};
-    }
-
-    private static void type(ColourOffice office, String text) {
-        for (char sign : text.toCharArray()) {
-            office.type(sign);
-        }
-    }
-
-    private static int run(ColourOffice office, String script) {
-        type(office, script);
-        return office.runScript();
+        return Offices.c(red, green, blue, fastness);
     }
 
     private static String text(ColourOffice office, int length) {
@@ -162,7 +143,7 @@ public final class PromiseTest {
     }
 
     private static void discard() {
-        ColourOffice office = officeOf(c(1, 1, 1, 1), c(2, 2, 2, 2), c(3, 3, 3, 3));
+        ColourOffice office = Offices.officeOf(c(1, 1, 1, 1), c(2, 2, 2, 2), c(3, 3, 3, 3));
         same("5: colours left", office.discard(0), 2);
         same("5: a coin is paid", dump(office), "0m -1 -1 0 c1:2/2/2f2d0 c2:3/3/3f3d0");
         refused("5: discarded already", ELEMENT, () -> office.discard(0));
@@ -187,7 +168,7 @@ public final class PromiseTest {
     }
 
     private static void giveBack() {
-        ColourOffice office = officeOf(c(10, 0, 0, 1), c(12, 0, 0, 1), c(14, 0, 0, 1));
+        ColourOffice office = Offices.officeOf(c(10, 0, 0, 1), c(12, 0, 0, 1), c(14, 0, 0, 1));
         office.report(11, 0, 0, 1, 5);
         office.report(14, 0, 0, 0, 7);
         office.report(20, 0, 0, 5, 9);
@@ -203,7 +184,7 @@ public final class PromiseTest {
         refused("7: the report is gone", ELEMENT, () -> office.giveBack(0, 1));
         refused("7: the colour is gone", ELEMENT, () -> office.giveBack(2, 0));
         same("7: the rest is still answered", office.nearestFor(2), 1);
-        ColourOffice byMetric = officeOf(c(0, 5, 5, 1), c(8, 0, 0, 1));
+        ColourOffice byMetric = Offices.officeOf(c(0, 5, 5, 1), c(8, 0, 0, 1));
         byMetric.report(0, 0, 0, 9999, 3);
         refused("7: the nearest in the present metric", UNSUPPORTED, () -> byMetric.giveBack(0, 0));
         byMetric.setMetric('s');
@@ -214,7 +195,7 @@ public final class PromiseTest {
         ColourOffice office = new ColourOffice();
         same("8: nothing to settle", office.settle(), 0);
         same("8: it is a change all the same", office.undo(), 0);
-        ColourOffice full = officeOf(c(0, 0, 0, 1), c(5, 0, 0, 1), c(90, 0, 0, 1), c(6, 0, 0, 1));
+        ColourOffice full = Offices.officeOf(c(0, 0, 0, 1), c(5, 0, 0, 1), c(90, 0, 0, 1), c(6, 0, 0, 1));
         full.report(5, 0, 0, 0, 1);
         full.report(50, 0, 0, 3, 99);
         full.report(4, 0, 0, 4, 10);
@@ -226,13 +207,13 @@ public final class PromiseTest {
     }
 
     private static void mix() {
-        ColourOffice office = officeOf(c(0, 99, 3, 5), c(7, 98, 4, 2), c(50, 50, 50, 9));
+        ColourOffice office = Offices.officeOf(c(0, 99, 3, 5), c(7, 98, 4, 2), c(50, 50, 50, 9));
         office.passDays(1);
         refused("9: no such first colour", ELEMENT, () -> office.mix(3, 0));
         refused("9: no such second colour", ELEMENT, () -> office.mix(0, -1));
         refused("9: the same and missing", ELEMENT, () -> office.mix(3, 3));
         refused("9: the same", ARGUMENT, () -> office.mix(1, 1));
-        ColourOffice fresh = officeOf(c(0, 99, 3, 5), c(7, 98, 4, 2), c(50, 50, 50, 9));
+        ColourOffice fresh = Offices.officeOf(c(0, 99, 3, 5), c(7, 98, 4, 2), c(50, 50, 50, 9));
         same("9: the new id", fresh.mix(1, 0), 3);
         same("9: halves are rounded down", dump(fresh), "0m 0 0 0 c2:50/50/50f9d0 c3:3/98/3f2d0");
         same("9: the new id", office.mix(0, 2), 3);
@@ -250,7 +231,7 @@ public final class PromiseTest {
     }
 
     private static void passDays() {
-        ColourOffice office = officeOf(c(51, 50, 49, 2), c(0, 99, 50, 1), c(50, 50, 50, 9));
+        ColourOffice office = Offices.officeOf(c(51, 50, 49, 2), c(0, 99, 50, 1), c(50, 50, 50, 9));
         same("10: a day of no fading for the first", office.passDays(1), 1);
         same("10: fading towards grey", dump(office), "1m 0 0 0 c0:51/50/49f2d1 c1:1/98/50f1d1 c2:50/50/50f9d1");
         office.addColour(52, 48, 50, 2);
@@ -269,7 +250,7 @@ public final class PromiseTest {
     // ---- promises 11 to 19 ----
 
     private static void foundColours() {
-        ColourOffice office = officeOf(c(1, 2, 3, 4), c(50, 50, 50, 1), c(3, 2, 1, 9), c(0, 6, 0, 2));
+        ColourOffice office = Offices.officeOf(c(1, 2, 3, 4), c(50, 50, 50, 1), c(3, 2, 1, 9), c(0, 6, 0, 2));
         same("11: colours", office.colourCount(), 4);
         office.discard(1);
         same("11: colours after a discard", office.colourCount(), 3);
@@ -306,7 +287,7 @@ public final class PromiseTest {
     }
 
     private static void daysUntilGrey() {
-        ColourOffice office = officeOf(c(50, 50, 50, 9), c(50, 53, 50, 3), c(49, 51, 50, 1), c(0, 99, 50, 7));
+        ColourOffice office = Offices.officeOf(c(50, 50, 50, 9), c(50, 53, 50, 3), c(49, 51, 50, 1), c(0, 99, 50, 7));
         same("18: grey", office.daysUntilGrey(0), 0);
         same("18: the greatest difference counts", office.daysUntilGrey(3), 350);
         for (int days = office.daysUntilGrey(1); days > 0; days--) {
@@ -319,7 +300,8 @@ public final class PromiseTest {
     }
 
     private static void colourByBrightness() {
-        ColourOffice office = officeOf(c(1, 1, 1, 1), c(9, 0, 0, 1), c(0, 0, 9, 1), c(99, 99, 99, 1), c(1, 2, 0, 1));
+        ColourOffice office = Offices.officeOf(c(1, 1, 1, 1), c(9, 0, 0, 1), c(0, 0, 9, 1), c(99, 99, 99, 1),
+                c(1, 2, 0, 1));
         int[] due = {3, 1, 2, 0, 4};
         for (int rank = 0; rank < due.length; rank++) {
             same("19: rank " + rank, office.colourByBrightness(rank), due[rank]);
@@ -378,7 +360,7 @@ public final class PromiseTest {
     // ---- promises 27 to 31 ----
 
     private static void distances() {
-        ColourOffice office = officeOf(c(10, 20, 30, 1), c(13, 16, 42, 1), c(0, 99, 0, 1), c(99, 0, 99, 1));
+        ColourOffice office = Offices.officeOf(c(10, 20, 30, 1), c(13, 16, 42, 1), c(0, 99, 0, 1), c(99, 0, 99, 1));
         same("27: in metric m", office.distance(0, 1), 19);
         same("27: the other way round", office.distance(1, 0), 19);
         same("27: of the same", office.distance(1, 1), 0);
@@ -508,7 +490,7 @@ public final class PromiseTest {
     }
 
     private static void settlementByReward() {
-        ColourOffice office = officeOf(c(0, 0, 0, 1), c(10, 0, 0, 1));
+        ColourOffice office = Offices.officeOf(c(0, 0, 0, 1), c(10, 0, 0, 1));
         office.report(0, 0, 0, 99, 10);
         office.report(10, 0, 0, 99, 11);
         office.report(0, 10, 0, 10, 12);
@@ -518,7 +500,7 @@ public final class PromiseTest {
         refused("35: it gets none", ELEMENT, () -> office.settlementFor(0));
         same("35: its own", office.settlementFor(1), 1);
         same("35: the only one that fits", office.settlementFor(2), 0);
-        ColourOffice coin = officeOf(c(0, 0, 0, 1));
+        ColourOffice coin = Offices.officeOf(c(0, 0, 0, 1));
         coin.setMetric('s');
         coin.report(0, 0, 0, 0, 98);
         coin.report(99, 0, 0, 9999, 99);
@@ -528,7 +510,7 @@ public final class PromiseTest {
     }
 
     private static void settlementByDistance() {
-        ColourOffice office = officeOf(c(5, 0, 0, 1), c(0, 0, 0, 1), c(50, 0, 0, 1));
+        ColourOffice office = Offices.officeOf(c(5, 0, 0, 1), c(0, 0, 0, 1), c(50, 0, 0, 1));
         office.report(0, 0, 0, 99, 10);
         office.report(4, 0, 0, 99, 10);
         same("34: the smallest distances", office.bestDifference(), 1);
@@ -544,7 +526,7 @@ public final class PromiseTest {
     }
 
     private static void settlementByIds() {
-        ColourOffice office = officeOf(c(10, 0, 0, 1), c(0, 10, 0, 1), c(0, 0, 10, 1));
+        ColourOffice office = Offices.officeOf(c(10, 0, 0, 1), c(0, 10, 0, 1), c(0, 0, 10, 1));
         office.report(0, 0, 0, 10, 7);
         office.report(0, 0, 0, 10, 7);
         same("35: the lowest id for the first", office.settlementFor(0), 0);
@@ -553,7 +535,7 @@ public final class PromiseTest {
         same("35: the lowest id with which it is still best", office.settlementFor(0), 1);
         same("35: the next one", office.settlementFor(1), 2);
         same("35: the only one that fits", office.settlementFor(2), 0);
-        ColourOffice few = officeOf(c(5, 5, 5, 1));
+        ColourOffice few = Offices.officeOf(c(5, 5, 5, 1));
         few.report(5, 5, 6, 9, 3);
         few.report(5, 5, 4, 9, 3);
         same("35: the first report rather gets one than none", few.settlementFor(0), 0);
@@ -575,7 +557,7 @@ public final class PromiseTest {
         for (int number = 0; number < 6; number++) {
             same("35: in the order of ids", office.settlementFor(number), 4 + number);
         }
-        ColourOffice few = officeOf(c(0, 0, 0, 1), c(1, 1, 1, 1));
+        ColourOffice few = Offices.officeOf(c(0, 0, 0, 1), c(1, 1, 1, 1));
         int[] rewards = {4, 9, 2, 9, 1, 8};
         for (int reward : rewards) {
             few.report(0, 0, 0, 99, reward);
@@ -588,7 +570,7 @@ public final class PromiseTest {
 
     private static void palettesOfFew() {
         ColourOffice none = new ColourOffice();
-        ColourOffice office = officeOf(c(0, 0, 0, 1), c(10, 0, 0, 1), c(20, 0, 0, 1), c(80, 80, 80, 2),
+        ColourOffice office = Offices.officeOf(c(0, 0, 0, 1), c(10, 0, 0, 1), c(20, 0, 0, 1), c(80, 80, 80, 2),
                 c(90, 80, 80, 2));
         for (int wrong : new int[] {0, -1, 6, Integer.MAX_VALUE, Integer.MIN_VALUE}) {
             refused("36: wrong size", ARGUMENT, () -> office.paletteError(wrong));
@@ -621,7 +603,8 @@ public final class PromiseTest {
     }
 
     private static void palettesOfEqualError() {
-        ColourOffice office = officeOf(c(1, 1, 1, 1), c(7, 7, 7, 1), c(7, 7, 7, 1), c(1, 1, 1, 1), c(7, 7, 7, 1));
+        ColourOffice office = Offices.officeOf(c(1, 1, 1, 1), c(7, 7, 7, 1), c(7, 7, 7, 1), c(1, 1, 1, 1),
+                c(7, 7, 7, 1));
         office.discard(0);
         same("36: two colours twice", office.paletteError(2), 0);
         same("37: two colours twice", office.paletteErrorBySearch(2), 0);
@@ -737,18 +720,18 @@ public final class PromiseTest {
 
     private static void scriptsOfEachCommand() {
         ColourOffice office = new ColourOffice();
-        same("51: find", run(office, "find 1/02/0099 9;find 10/0/0 1;find 20/0/0 1;find 5/5/5 2"), 4);
-        same("51: report", run(office, "report 1/2/3 9999 99;report 20/0/0 1 7;report 0/0/0 0 1"), 3);
+        same("51: find", Offices.run(office, "find 1/02/0099 9;find 10/0/0 1;find 20/0/0 1;find 5/5/5 2"), 4);
+        same("51: report", Offices.run(office, "report 1/2/3 9999 99;report 20/0/0 1 7;report 0/0/0 0 1"), 3);
         same("51: what stands", dump(office), "0m 0 0 0 c0:1/2/99f9d0 c1:10/0/0f1d0 c2:20/0/0f1d0 c3:5/5/5f2d0"
                 + " r0:9999+99 r1:1+7 r2:0+1");
-        same("51: drop", run(office, "drop 2;discard 0;return 1 2;mix 3 1"), 4);
+        same("51: drop", Offices.run(office, "drop 2;discard 0;return 1 2;mix 3 1"), 4);
         same("51: what stands", dump(office), "0m 6 6 1 c4:7/2/2f1d0 r0:9999+99");
-        same("51: day", run(office, "day;day 2;metric g;metric s;metric m;settle"), 6);
+        same("51: day", Offices.run(office, "day;day 2;metric g;metric s;metric m;settle"), 6);
         same("51: what stands", dump(office), "3m 105 105 2");
-        same("51: a day at the end", run(office, "day"), 1);
-        same("51: the most commands", run(office, "day;day;day;day;day;day;day;day;day;day;day;day;day;day;day"), 15);
+        same("51: a day at the end", Offices.run(office, "day"), 1);
+        same("51: the most commands", Offices.run(office, "day;".repeat(14) + "day"), 15);
         same("51: the days", office.day(), 19);
-        same("51: days of four digits", run(office, "day 0099"), 1);
+        same("51: days of four digits", Offices.run(office, "day 0099"), 1);
         same("51: the days", office.day(), 118);
     }
 
@@ -765,16 +748,16 @@ public final class PromiseTest {
             {"mix 1", 5}, {"mix 1 ", 6}, {"mix 1  2", 6}, {"return 1", 8}, {"return 1;", 8}, {"discard", 7},
             {"dis 1", 3}, {"discard x", 8}, {"drop 1;drop ?", 12}, {"settle;day 1;find 1/2/3 x", 24}};
         for (Object[] w : wrong) {
-            type(office, (String) w[0]);
+            Offices.type(office, (String) w[0]);
             refused("51: " + w[0], ARGUMENT, () -> office.runScript());
             same("52: " + w[0], office.errorPosition(), w[1]);
         }
         refused("51: the buffer is empty again", ARGUMENT, () -> office.runScript());
         same("52: the latest such script", office.errorPosition(), 0);
-        type(office, "day;dax");
+        Offices.type(office, "day;dax");
         refused("51: nothing takes effect", ARGUMENT, () -> office.runScript());
         same("51: nothing takes effect", office.day(), 0);
-        same("51: a right script", run(office, "day"), 1);
+        same("51: a right script", Offices.run(office, "day"), 1);
         same("52: the latest such script", office.errorPosition(), 6);
         office.undo();
         same("52: undo leaves it", office.errorPosition(), 6);
@@ -784,7 +767,7 @@ public final class PromiseTest {
     }
 
     private static void scriptsThatFail() {
-        ColourOffice office = officeOf(c(0, 0, 0, 1), c(9, 9, 9, 1));
+        ColourOffice office = Offices.officeOf(c(0, 0, 0, 1), c(9, 9, 9, 1));
         office.report(1, 1, 1, 99, 5);
         String before = dump(office);
         refused("53: no such script", ELEMENT, () -> office.failedCommand());
@@ -795,7 +778,7 @@ public final class PromiseTest {
             {"settle;mix 0 1", 1, 'e'}, {"day 0", 0, 'a'}, {"day 99;day 100", 1, 'a'},
             {"mix 0 1;discard 2;drop 0;drop 0;day", 3, 'e'}};
         for (Object[] f : failing) {
-            type(office, (String) f[0]);
+            Offices.type(office, (String) f[0]);
             refused("51: " + f[0], STATE, () -> office.runScript());
             same("53: " + f[0], office.failedCommand(), f[1]);
             same("54: " + f[0], office.failureKind(), f[2]);
@@ -806,11 +789,11 @@ public final class PromiseTest {
         for (int more = 0; more < 7; more++) {
             office.addColour(1, 2, 3, 4);
         }
-        type(office, "day;find 1/1/1 1");
+        Offices.type(office, "day;find 1/1/1 1");
         refused("51: an eleventh colour", STATE, () -> office.runScript());
         same("53: an eleventh colour", office.failedCommand(), 1);
         same("54: an eleventh colour", office.failureKind(), 's');
-        same("51: a right script", run(office, "day"), 1);
+        same("51: a right script", Offices.run(office, "day"), 1);
         office.undo();
         same("53: the latest such script", office.failedCommand(), 1);
         same("54: the latest such script", office.failureKind(), 's');
@@ -867,11 +850,11 @@ public final class PromiseTest {
     }
 
     private static void undoOfScripts() {
-        ColourOffice office = officeOf(c(10, 10, 10, 1));
+        ColourOffice office = Offices.officeOf(c(10, 10, 10, 1));
         String before = dump(office);
-        run(office, "day;report 11/11/11 9 9;settle");
+        Offices.run(office, "day;report 11/11/11 9 9;settle");
         same("55: a script is one change", dump(office), "1m 9 9 1");
-        type(office, "da");
+        Offices.type(office, "da");
         same("55: changes that are left", office.undo(), 1);
         same("55: all of the script", dump(office), before);
         same("55: undo leaves the buffer", office.type('y'), 3);
@@ -887,7 +870,7 @@ public final class PromiseTest {
     }
 
     private static void saveAndRestore() {
-        ColourOffice office = officeOf(c(1, 1, 1, 1), c(2, 2, 2, 2));
+        ColourOffice office = Offices.officeOf(c(1, 1, 1, 1), c(2, 2, 2, 2));
         refused("57: no snapshot", STATE, () -> office.restore());
         same("56: colours", office.save(), 2);
         same("56: save leaves what can be undone", office.undo(), 1);
@@ -899,7 +882,7 @@ public final class PromiseTest {
         office.settle();
         office.discard(0);
         office.renderColour(office.addColour(7, 7, 7, 7));
-        type(office, "da");
+        Offices.type(office, "da");
         same("57: again", office.restore(), 2);
         same("57: all of it", dump(office), "0m 0 0 0 c0:1/1/1f1d0 c1:2/2/2f2d0");
         same("57: the buffer stays", office.type('y'), 3);

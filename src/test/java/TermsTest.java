@@ -653,7 +653,8 @@ public final class TermsTest {
         same("two of five, by search", two.paletteErrorBySearch(2), 9);
         same("two of five", two.paletteColour(2, 0) * 10 + two.paletteColour(2, 1), 4);
         // {0, 3, 4} and {1, 2, 3}, which both contain 3.
-        ColourOffice three = Offices.officeOf(c(1, 1, 0, 1), c(0, 3, 0, 1), c(2, 0, 0, 1), c(6, 6, 0, 1), c(5, 0, 0, 1));
+        ColourOffice three = Offices.officeOf(c(1, 1, 0, 1), c(0, 3, 0, 1), c(2, 0, 0, 1), c(6, 6, 0, 1),
+                c(5, 0, 0, 1));
         same("three of five", three.paletteError(3), 5);
         same("three of five, by search", three.paletteErrorBySearch(3), 5);
         same("three of five", three.paletteColour(3, 0) * 100 + three.paletteColour(3, 1) * 10
