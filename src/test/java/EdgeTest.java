@@ -407,6 +407,7 @@ public final class EdgeTest {
         same("27: of the only colour to itself", Offices.officeOf(c(7, 8, 9, 1)).distance(0, 0), 0);
         nearestInTheCorners();
         nearestAmongColoursInARow();
+        nearestInTheWholeCube();
         closestOfTwoAndOfTen();
     }
 
@@ -460,6 +461,44 @@ public final class EdgeTest {
         }
     }
 
+    // Ten colours in no order of any part, looked up from all over the cube, its edges and corners too.
+    private static void nearestInTheWholeCube() {
+        int[][] colours = {c(71, 3, 40, 1), c(15, 88, 62, 1), c(50, 50, 50, 1), c(97, 60, 5, 1), c(33, 21, 94, 1),
+            c(4, 45, 11, 1), c(62, 77, 81, 1), c(28, 9, 27, 1), c(85, 34, 73, 1), c(41, 96, 18, 1)};
+        for (int red = 0; red <= 99; red += 11) {
+            for (char metric : "msg".toCharArray()) {
+                ColourOffice office = Offices.officeOf(colours);
+                office.setMetric(metric);
+                for (int target = 0; target < 100; target++) {
+                    int green = target / 10 * 11;
+                    int blue = target % 10 * 11;
+                    int due = nearestOf(colours, metric, red, green, blue);
+                    String what = metric + " " + red + "/" + green + "/" + blue;
+                    same("28: " + what, office.nearest(red, green, blue), due);
+                    same("29: " + what, office.nearestByLooking(red, green, blue), due);
+                }
+            }
+        }
+    }
+
+    private static int nearestOf(int[][] colours, char metric, int red, int green, int blue) {
+        int nearest = 0;
+        int least = Integer.MAX_VALUE;
+        for (int number = 0; number < colours.length; number++) {
+            int[] gaps = {Math.abs(colours[number][0] - red), Math.abs(colours[number][1] - green),
+                Math.abs(colours[number][2] - blue)};
+            int sum = gaps[0] + gaps[1] + gaps[2];
+            int squares = gaps[0] * gaps[0] + gaps[1] * gaps[1] + gaps[2] * gaps[2];
+            int greatest = Math.max(gaps[0], Math.max(gaps[1], gaps[2]));
+            int distance = metric == 'm' ? sum : metric == 's' ? squares : greatest;
+            if (distance < least) {
+                least = distance;
+                nearest = number;
+            }
+        }
+        return nearest;
+    }
+
     private static void closestOfTwoAndOfTen() {
         ColourOffice two = Offices.officeOf(c(0, 0, 0, 1));
         refused("30: one colour", ELEMENT, () -> two.closestDistance());
@@ -490,6 +529,25 @@ public final class EdgeTest {
         reds.setMetric('s');
         same("30: near in the order of reds", reds.closestDistance(), 19);
         same("31: near in the order of reds", reds.closestDistanceBySorting(), 19);
+        redsOneNearerThanTheClosest();
+    }
+
+    // "leaving out pairs whose red parts differ too much": a pair whose reds differ by one less is not left out.
+    private static void redsOneNearerThanTheClosest() {
+        int[] distances = {4, 16, 4};
+        for (int index = 0; index < 3; index++) {
+            ColourOffice office = Offices.officeOf(c(64, 0, 50, 1), c(20, 5, 0, 1), c(60, 0, 50, 1), c(20, 0, 0, 1));
+            office.setMetric("msg".charAt(index));
+            same("30: reds one nearer", office.closestDistance(), distances[index]);
+            same("31: reds one nearer", office.closestDistanceBySorting(), distances[index]);
+            office.mix(0, 2);
+            int[] left = {5, 25, 5};
+            same("30: reds too far", office.closestDistance(), left[index]);
+            same("31: reds too far", office.closestDistanceBySorting(), left[index]);
+        }
+        ColourOffice equalReds = Offices.officeOf(c(60, 0, 0, 1), c(50, 0, 0, 1), c(50, 20, 0, 1), c(59, 3, 0, 1));
+        same("30: equal reds", equalReds.closestDistance(), 4);
+        same("31: equal reds", equalReds.closestDistanceBySorting(), 4);
     }
 
     // ---- promises 32 to 38 ----
@@ -499,6 +557,45 @@ public final class EdgeTest {
         asManyAsThereAre();
         palettesInEachMetric();
         fullPalettes();
+        eachAskedFirst();
+    }
+
+    // None of the two ways leans on what the other one has looked up before.
+    private static void eachAskedFirst() {
+        firstAnswer("26: asked first", office -> office.nearestFor(1), 2);
+        firstAnswer("28: asked first", office -> office.nearest(31, 0, 0), 2);
+        firstAnswer("29: asked first", office -> office.nearestByLooking(31, 0, 0), 2);
+        firstAnswer("30: asked first", ColourOffice::closestDistance, 10);
+        firstAnswer("31: asked first", ColourOffice::closestDistanceBySorting, 10);
+        firstAnswer("32: asked first", ColourOffice::bestReward, 12);
+        firstAnswer("33: asked first", ColourOffice::bestRewardByTrying, 12);
+        firstAnswer("34: asked first", ColourOffice::bestDifference, 6);
+        firstAnswer("35: asked first", office -> office.settlementFor(1), 2);
+        firstAnswer("36: asked first", office -> office.paletteError(2), 10);
+        firstAnswer("37: asked first", office -> office.paletteErrorBySearch(2), 10);
+        firstAnswer("38: asked first", office -> office.paletteColour(2, 1), 1);
+        firstAnswer("46: asked first", ColourOffice::isConsistent, true);
+        firstAnswer("8: asked first", ColourOffice::settle, 2);
+    }
+
+    private static void firstAnswer(String what, Function<ColourOffice, Object> call, Object due) {
+        same(what, call.apply(twoReportsForThreeColours()), due);
+        ColourOffice office = twoReportsForThreeColours();
+        office.save();
+        office.setMetric('s');
+        office.discard(1);
+        office.passDays(40);
+        office.report(99, 99, 99, 9999, 99);
+        Whole.answer(() -> call.apply(office));
+        office.restore();
+        same(what + " behind other colours", call.apply(office), due);
+    }
+
+    private static ColourOffice twoReportsForThreeColours() {
+        ColourOffice office = Offices.officeOf(c(20, 0, 0, 1), c(60, 0, 0, 1), c(30, 0, 0, 1));
+        office.report(19, 0, 0, 9, 5);
+        office.report(35, 0, 0, 9, 7);
+        return office;
     }
 
     // "0 if no colour fits"
